@@ -43,12 +43,12 @@ final class Oracle {
 
     static P randomPaper(Random z) {
         P p = new P();
-        int words = 2 + z.nextInt(9);
+        int words = z.nextInt(3) == 0 ? 2 + z.nextInt(9) : 3 + z.nextInt(4);
         p.proof = new int[z.nextInt(4) == 0 ? z.nextInt(9) : 1 + z.nextInt(4)];
         for (int i = 0; i < p.proof.length; i++) {
             p.proof[i] = z.nextInt(words);
         }
-        int couples = z.nextInt(3) == 0 ? z.nextInt(46) : z.nextInt(14);
+        int couples = z.nextInt(3) == 0 ? z.nextInt(46) : words + z.nextInt(5);
         for (int i = 0; i < couples; i++) {
             int a = z.nextInt(words);
             int b = z.nextInt(words);
@@ -57,13 +57,13 @@ final class Oracle {
                 p.near[b][a] = true;
             }
         }
-        int readers = z.nextInt(4) == 0 ? z.nextInt(7) : z.nextInt(5);
+        int readers = z.nextInt(4) == 0 ? z.nextInt(7) : 2 + z.nextInt(4);
         p.patience = new int[readers];
         p.days = new int[readers];
         p.want = new int[readers][p.proof.length];
-        int eager = 1 + z.nextInt(5);
+        int eager = 1 + z.nextInt(6);
         for (int r = 0; r < readers; r++) {
-            p.patience[r] = z.nextInt(5) == 0 ? z.nextInt(10) : z.nextInt(4);
+            p.patience[r] = z.nextInt(5) == 0 ? z.nextInt(10) : 1 + z.nextInt(3);
             p.days[r] = 1 + z.nextInt(9);
             for (int i = 0; i < p.proof.length; i++) {
                 p.want[r][i] = z.nextInt(6) < eager ? z.nextInt(words) : NO;
