@@ -169,6 +169,13 @@ final class PromisesTest {
         fault(0, "wor 3;", 1, 0);
         fault(0, "wordy 3;", 1, 0);
         fault(0, "Word 3;", 1, 0);
+        fault(0, "xord 3;", 1, 0);
+        fault(0, "wordz 3;", 1, 0);
+        fault(0, "aword 3;", 1, 0);
+        fault(0, "word{3;", 1, 4);
+        fault(0, "word`3;", 1, 4);
+        fault(0, "word:3;", 1, 4);
+        fault(0, "word/3;", 1, 4);
         fault(0, "word 3;\tword 3;", 1, 7);
         fault(0, "word 3;;", 1, 7);
         fault(0, "word 003;", 1, 5);
@@ -316,6 +323,7 @@ final class PromisesTest {
         due.at("promise 8");
         due.is("no reader", stopOf(A, "print;read 3;"), 1);
         due.is("no place", stopOf(A, "set 3 0;"), 0);
+        due.is("no place, another word", stopOf(A, "set 2 1;set 3 1;"), 1);
         due.is("the same word", stopOf(A, "set 1 3;"), 0);
         due.is("another word", stopOf(A, "set 1 2;set 1 2;"), 1);
         due.is("no reader to leave", stopOf(A, "stet 3 0;"), 0);
@@ -337,6 +345,7 @@ final class PromisesTest {
         due.is("first", x.after(0, 0, 0), 1);
         x = with("", 1, "print;print;");
         due.is("editions of nothing", x.after(0, 0, 4), 1);
+        due.is("touched nothing", x.after(0, 0, 3), 0);
         // A parted couple is far at once, a joined one near.
         x = with("word 0;near 0 1;near 1 2;near 2 3;reader 9 1;wants 0 0 3;", 1, "read 0;part 1 2;read 0;join 1 3;read 0;");
         int[] stands = {0, 1, 1, 1, 1, 3};
@@ -367,6 +376,8 @@ final class PromisesTest {
             due.is("towards " + towards[i] + " " + towards[i + 1],
                 x.towards(0, towards[i], towards[i + 1]), towards[i + 2]);
         }
+        due.is("a word behind the last", x.steps(0, 10, 0), -1);
+        due.is("a word behind the last", x.towards(0, 10, 0), -1);
         due.is("the least of two", x.towards(1, 0, 3), 1);
         due.is("the least of two back", x.towards(1, 4, 0), 3);
         due.is("the least of two back", x.towards(1, 3, 0), 1);
@@ -425,6 +436,9 @@ final class PromisesTest {
         roundsAre("word 5;near 5 0;near 0 1;near 1 2;reader 1 1;reader 1 1;wants 0 0 2;wants 1 0 0;", -1, 1, 0);
         // In place 1 stand 0, then 3, 4, 5, 3: the ring does not come back to what was first.
         roundsAre("word 6;word 0;word 3;near 3 0;near 4 0;near 2 1;near 1 4;near 2 3;near 3 5;near 4 5;reader 3 1;"
+            + "wants 0 0 2;wants 0 1 2;reader 3 1;wants 1 1 4;wants 1 2 3;reader 1 1;wants 2 0 4;wants 2 1 5;"
+            + "wants 2 2 1;", -1, 3, 6, 3, 3);
+        roundsAre("word 6;word 3;word 3;near 3 0;near 4 0;near 2 1;near 1 4;near 2 3;near 3 5;near 4 5;reader 3 1;"
             + "wants 0 0 2;wants 0 1 2;reader 3 1;wants 1 1 4;wants 1 2 3;reader 1 1;wants 2 0 4;wants 2 1 5;"
             + "wants 2 2 1;", -1, 3, 6, 3, 3);
         String far = "near 0 1;near 1 2;near 2 3;near 3 4;near 4 5;near 5 6;near 6 7;near 7 8;near 8 9;reader 1 1;";
@@ -521,6 +535,10 @@ final class PromisesTest {
         due.is("alike, which", x.signs(0, true), -1);
         due.is("one reader", x.signs(1, false), 0);
         due.is("one reader, which", x.signs(1, true), 0);
+        x = with("word 0;word 0;word 0;" + "reader 1 1;".repeat(3)
+            + "wants 0 0 1;wants 1 1 1;wants 0 2 5;wants 1 2 6;wants 2 2 7;");
+        due.is("one place, not two of a lesser number", x.signs(0, true), 4);
+        due.is("one place, how many", x.signs(0, false), 1);
         x = with("reader 1 1;reader 1 1;", "");
         due.is("no places to tell by", x.signs(0, false), -1);
         due.is("nobody", x.signs(1, false), 0);
@@ -571,7 +589,7 @@ final class PromisesTest {
             due.is("fits " + fits[i], x.fits(0, 0, fits[i]), fits[i + 1]);
         }
         due.at("promise 22");
-        int[] ahead = {0, 1, 1, 1, 1, 0, 0, 1, 0, 2, 2, 3, 2, 0, 1, 3, 2, 1, 2, 3, 0, 0, -1, -1, 0, 3, -1, -1, -1, 0, -1, -1};
+        int[] ahead = {3, 0, -1, -1, 0, 1, 1, 1, 1, 0, 0, 1, 0, 2, 2, 3, 2, 0, 1, 3, 2, 1, 2, 3, 0, 0, -1, -1, 0, 3, -1, -1, -1, 0, -1, -1};
         for (int i = 0; i < ahead.length; i += 4) {
             due.is("ahead " + ahead[i] + ahead[i + 1], x.ahead(0, 0, ahead[i], ahead[i + 1], false), ahead[i + 2]);
             due.is("ahead under " + ahead[i] + ahead[i + 1], x.ahead(0, 0, ahead[i], ahead[i + 1], true), ahead[i + 3]);
@@ -582,6 +600,7 @@ final class PromisesTest {
             due.is("firsts " + what, x.firsts(0, 0, what), firsts[what]);
         }
         nothingFits(x, "was 7 0;");
+        nothingFits(x, "was 3 0;");
         nothingFits(x, "was 0 0;was 0 3;");
         nothingFits(x, "was 1 9;");
         Due.text(x, 2, 0, "was 0 3;");
@@ -620,8 +639,19 @@ final class PromisesTest {
         due.is("firsts", x.firsts(0, 0, 0), 0);
         due.is("lasts", x.firsts(0, 0, 1), 0);
         due.is("best", x.firsts(0, 0, 2), 0);
-        x = with("reader 1 1;", 2, "");
+        x = with("word 0;" + "reader 0 1;".repeat(6), 2, "was 0 0;");
         due.at("promise 21");
+        due.is("rows of six", x.fits(0, 0, 0), 720);
+        due.is("the first", x.fits(0, 0, 10), 1012345);
+        due.is("the second", x.fits(0, 0, 11), 1012354);
+        due.is("the last", x.fits(0, 0, 729), 1543210);
+        due.is("behind the last", x.fits(0, 0, 730), -2);
+        due.is("ask", x.fits(0, 0, 1), 0);
+        due.is("sure of the sixth", x.fits(0, 0, 7), -1);
+        due.is("ahead", 10 * x.ahead(0, 0, 5, 0, false) + x.ahead(0, 0, 5, 0, true), 12);
+        due.is("firsts and lasts", x.firsts(0, 0, 0) + x.firsts(0, 0, 1), 126);
+        due.is("order", x.order(0, 5), 5);
+        x = with("reader 1 1;", 2, "");
         due.is("no places to ask", x.fits(0, 0, 1), -1);
         for (int odd : ODD) {
             due.is("fits " + odd, x.fits(0, 0, odd), -2);
@@ -672,6 +702,22 @@ final class PromisesTest {
         due.is("nothing at all: prints", x.drawn(1, -5, 12, 1), 1);
         due.is("nothing at all: joined", x.drawn(1, -5, 12, 56), 512);
         due.is("nothing at all: parted", x.drawn(1, -5, 12, 51), 0);
+        // WORDS NEAR behind 40 draws, worked out apart: without readers, without places, without both.
+        x = with("word 0;word 0;", "reader 0 1;reader 0 1;");
+        int[] near = {96, 8, 0, 2, 0, 1, 129, 64, 0, 0, 98, 41, 0, 2, 0, 3, 1, 0, 0, 0};
+        for (int w = 0; w < 10; w++) {
+            due.is("without readers near " + w, x.drawn(0, 99, 40, 50 + w), near[w]);
+            due.is("without places near " + w, x.drawn(1, 99, 40, 50 + w), near[10 + w]);
+        }
+        due.is("without readers prints", x.drawn(0, 99, 40, 1), 2);
+        due.is("without places prints", x.drawn(1, 99, 40, 1), 4);
+        due.is("without readers stands", 10 * x.drawn(0, 99, 40, 10) + x.drawn(0, 99, 40, 11), 40);
+        x = with("", "reader 0 1;reader 0 1;");
+        int[] neither = {2, 9, 0, 2, 0, 0, 128, 64, 0, 0};
+        for (int w = 0; w < 10; w++) {
+            due.is("without both near " + w, x.drawn(0, 99, 40, 50 + w), neither[w]);
+        }
+        due.is("without both prints", x.drawn(0, 99, 40, 1), 3);
         for (int odd : ODD) {
             due.is("n " + odd, x.drawn(0, 1, odd, 0), -2);
             due.is("what " + odd, x.drawn(0, 1, 1, odd), -2);
@@ -694,9 +740,11 @@ final class PromisesTest {
             due.is("kin of two rings " + what, x.kin(0, what), two[what]);
             due.is("kin of chains " + what, x.kin(1, what), chains[what]);
         }
+        x = with("near 0 1;near 1 2;near 2 0;near 5 6;near 6 7;near 7 8;near 8 5;");
+        due.is("the lesser circle is met first", x.kin(0, 5), 3);
         for (int odd : ODD) {
             due.is("what " + odd, x.kin(0, odd), -2);
-            due.is("paper " + odd, x.kin(odd, 0), -2);
+            due.is("paper " + odd, x.kin(odd, 1), -2);
         }
     }
 
@@ -719,6 +767,8 @@ final class PromisesTest {
         due.is("no paper", x.peace(1, true), -1);
         due.is("nobody", with("").peace(0, false), 0);
         due.is("nobody, which", with("").peace(0, true), 0);
+        due.is("the first has two rivals", with("word 0;reader 1 1;reader 1 1;reader 1 1;wants 0 0 1;wants 1 0 2;"
+            + "wants 2 0 2;").peace(0, true), 6);
         due.is("the least of two", with("word 0;reader 1 1;reader 1 1;wants 0 0 1;wants 1 0 2;").peace(0, true), 1);
         due.at("promise 27");
         int[] medians = {2, 2, 3, 0, 6, 10, -1, -1};
@@ -790,9 +840,19 @@ final class PromisesTest {
         x = with("word 0;near 0 1;near 0 2;near 1 2;reader 1 1;reader 1 1;reader 1 1;"
             + "wants 0 0 2;wants 1 0 1;wants 2 0 1;", "reader 1 1;");
         due.is("last of all", x.lastWord(0, 1), 1);
+        due.is("blame of the first", with("word 0;near 0 1;reader 1 1;wants 0 0 1;reader 1 1;").lastWord(0, 10), 0);
         due.is("the second and the third", x.lastWord(0, 3), 1);
         due.is("fewer than two", x.lastWord(1, 3), -1);
         due.is("fewer than two, much", x.lastWord(1, 4), 0);
+        // Who wants 1 must be the last of three who go; a fourth one has no patience, but wants 1, too.
+        x = with("word 0;near 0 1;near 0 2;near 1 2;reader 1 1;reader 1 1;reader 1 1;reader 0 1;"
+            + "wants 0 0 2;wants 1 0 1;wants 2 0 0;wants 3 0 1;", "word 0;reader 1 1;reader 1 1;");
+        due.is("the second for the third", x.lastWord(0, 3), 12);
+        due.is("the second for the third, much", x.lastWord(0, 4), 2);
+        int[] nothing = {3, 0, 0, 1, 0, 1, 0};
+        for (int what = 0; what < 7; what++) {
+            due.is("nothing wanted " + what, x.lastWord(1, what), nothing[what]);
+        }
         StringBuilder all = new StringBuilder("reader 1 1;word 0;wants 0 0 0;");
         for (int a = 0; a < 10; a++) {
             for (int b = a + 1; b < 10; b++) {
@@ -856,6 +916,12 @@ final class PromisesTest {
         due.is("places", x.paper(0, 0), 1);
         due.is("again 2", x.again(2), true);
         due.is("again 0", x.again(0), false);
+        due.is("image 0", x.image(0), true);
+        Due.text(x, 0, 0, "");
+        due.is("no places", x.paper(0, 0), 0);
+        due.is("again 0", x.again(0), true);
+        due.is("places", x.paper(0, 0), 1);
+        due.is("again 3", x.again(3), false);
     }
 
     /** Calls of an object with no papers, weeks, logs; and with papers, but without weeks and logs. */
