@@ -13,6 +13,8 @@ public final class ProofLine {
     private static final int MOST_BYTES = 600;
     private static final int MOST_DRAWN = 60;
     private static final int MOST_ROUNDS = 60;
+    /** As many as six READERS have at one desk. */
+    private static final int MOST_DAYS = 54;
     /** As many orders as six READERS have. */
     private static final int MOST_ROWS = 720;
     /** How many there may be of each sort. */
@@ -439,7 +441,7 @@ public final class ProofLine {
             rowsOfDesks *= n;
         }
         int best = 0;
-        int soonest = Integer.MAX_VALUE;
+        int soonest = MOST_DAYS + 1;
         for (int at = 0; at < rowsOfDesks; at++) {
             int days = longestDesk(p, n, at);
             if (days < soonest) {

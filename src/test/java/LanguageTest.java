@@ -76,6 +76,10 @@ final class LanguageTest {
         due.is("final", Modifier.isFinal(ProofLine.class.getModifiers()), true);
         due.is("constructors", ProofLine.class.getDeclaredConstructors().length, 1);
         for (Class<?> c : ProofLine.class.getDeclaredClasses()) {
+            for (Method m : c.getDeclaredMethods()) {
+                boolean hidden = Modifier.isPrivate(m.getModifiers());
+                due.is("a private method of a public name: " + m, hidden && names.contains(m.getName()), false);
+            }
             due.is("static " + c, Modifier.isStatic(c.getModifiers()), true);
             due.is("not public " + c, Modifier.isPublic(c.getModifiers()), false);
         }
@@ -86,7 +90,8 @@ final class LanguageTest {
         due.at("rule 3, 4");
         due.is("package line", text.contains("package "), false);
         for (String no : new String[] {"import ", "Exact(", ".values()", "hashCode", "toString", ".class",
-            "System.out", "System.nano", "System.current", "Random", "Thread", "Float", "Double", "native "}) {
+            "System.out", "System.nano", "System.current", "Random", "Thread", "Float", "Double", "native ",
+            "_VALUE"}) {
             due.is("«" + no + "»", text.contains(no), false);
         }
         due.is("signs 1 to 127", text.chars().allMatch(c -> c >= 10 && c < 127), true);

@@ -6,14 +6,15 @@ import java.util.Random;
  */
 final class WildTest {
     private static final Due due = new Due();
-    private static final int METHODS = 34;
+    private static final int ASKS = 6;
 
     public static void main(String[] args) {
-        for (int seed = 1; seed <= 400; seed++) {
+        for (int seed = 1; seed <= 2500; seed++) {
             due.at("seed " + seed);
             Random z = new Random(seed);
             Told t = new Told();
-            for (int i = 0; i < 60; i++) {
+            // A step makes fewer than fifty calls, and an object is used for 512.
+            while (t.calls < 460) {
                 t.step(z);
                 t.compare(z);
             }
@@ -87,7 +88,8 @@ final class WildTest {
 
     /** An object, and beside it what it was told, as texts. */
     private static final class Told {
-        private ProofLine x = new ProofLine();
+        private final ProofLine x = new ProofLine();
+        private int calls;
         private String[][] texts = new String[3][2];
         private String latest = "";
         private int sortOfLatest = 3;
@@ -106,6 +108,7 @@ final class WildTest {
         void step(Random z) {
             int k = z.nextInt(4);
             int lot = z.nextInt(10);
+            calls++;
             if (lot == 0) {
                 due.is("image " + k, x.image(k), k < 3);
                 if (k < 3) {
@@ -131,6 +134,7 @@ final class WildTest {
             int at = z.nextInt(4) - 1;
             String text = text(sort, z);
             int got = Due.text(x, sort, at, text);
+            calls += text.length() / 20 + 3;
             boolean may = at == -1 ? count(sort) < 2 : at < count(sort);
             int number = !may ? -2 : text.endsWith("odd") ? -1 : at == -1 ? count(sort) : at;
             due.is("text", got, number);
@@ -155,7 +159,8 @@ final class WildTest {
             } else {
                 y.text(3, -1);
             }
-            for (int i = 0; i < METHODS; i++) {
+            calls += 2 * ASKS;
+            for (int i = 0; i < ASKS; i++) {
                 long seed = z.nextLong();
                 long one = ask(x, new Random(seed));
                 due.is("ask " + seed, one, ask(y, new Random(seed)));
