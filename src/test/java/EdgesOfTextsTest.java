@@ -491,6 +491,7 @@ final class EdgesOfTextsTest {
     // ---- promises 1 to 7, 20, 32 ----
 
     static void promise1_a_new_object_has_nothing() {
+        due.is("the constant NONE", ProofLine.NONE, -1);
         due.is("no FAULT at first", new ProofLine().fault(0), 0);
         due.is("no place at first", new ProofLine().fault(1), NONE);
         ProofLine x = new ProofLine();
