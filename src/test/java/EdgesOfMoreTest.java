@@ -492,6 +492,11 @@ final class EdgesOfMoreTest {
         last(text + "wants5 7 9;near8 9;", 1, 0, 43, 1, 43, 1, 43);
     }
 
+    static void term5_teach_is_the_best_of_all() {
+        // Four want what stands at five PLACES: 20; with 7 and 8 NEAR one more has his way, with 8 and 9 two.
+        last(Edges.proof("0000088") + Edges.readers(1, "000007-", "00000-9", "00000-9", "00000--"), 5, 89, 22);
+    }
+
     static void term5_teach_leaves_the_paper_as_told() {
         ProofLine x = Edges.papers(Edges.proof("0") + LINE + Edges.readers(1, "9"));
         due.is("0 and 9", x.lastWord(0, 5), 9);
